@@ -371,6 +371,13 @@ public final class BoundaryTest {
             with(1).due(0, "orderOf", 0, 0).due(0, "orderOf", 0, 1).due(0, "orderOf", 0, 2).due(0, "orderOf", 0, 3)
                 .due(0, "orderOf", 0, 4).due(0, "orderOf", 0, 5).due(1, "orderOf", 0, 6).due(1, "orderOf", 0, 10);
         });
+        testEach("6: how many rings it has", n -> {
+            // Each place a ring of its own; all of them one ring, gone through upwards and downwards.
+            int[] upwards = {0, 0, 1, 3, 9, 33};
+            int[] downwards = {0, 0, 1, 4, 18, 96};
+            with(n).due(n, "orderOf", 0, 6).due((n + 1) / 2, "orderOf", MANY[n] - 1, 6)
+                .due(1, "orderOf", upwards[n], 6).due(1, "orderOf", downwards[n], 6);
+        });
         testEach("10 plus k: the letter at the place k", n -> {
             for (int k = 0; k < n; k++) {
                 with(n).due(k + 1, "orderOf", 0, 10 + k).due(n - k, "orderOf", MANY[n] - 1, 10 + k);
@@ -555,19 +562,22 @@ public final class BoundaryTest {
             .due(1, "add", 0, MANY[n] - 1, 1).due(1, "clear", 0).due(NOT_FOUND, "square", 0));
     }
 
-    private static void byOrders() {
-        in("Promise 18: byOrders");
-        plain("Returns how often a wide class is in the product of two wide classes, by orders");
+    /** The sets p and q, which both ways to multiply classes have. */
+    private static void classesToMultiply(String name) {
         testEach("`p`: a set of descents: the first wide class", n -> {
             int all = lastSet(n);
-            with(n).due(1, "byOrders", 0, all, all).due(MANY[n], "byOrders", all, all, all)
-                .due(INVALID, "byOrders", all + 1, 0, 0);
+            with(n).due(1, name, 0, all, all).due(MANY[n], name, all, all, all).due(INVALID, name, all + 1, 0, 0);
         });
         testEach("`q`: a set of descents: the second one", n -> {
             int all = lastSet(n);
-            with(n).due(1, "byOrders", all, 0, all).due(MANY[n], "byOrders", all, all, all)
-                .due(INVALID, "byOrders", 0, all + 1, 0);
+            with(n).due(1, name, all, 0, all).due(MANY[n], name, all, all, all).due(INVALID, name, 0, all + 1, 0);
         });
+    }
+
+    private static void byOrders() {
+        in("Promise 18: byOrders");
+        plain("Returns how often a wide class is in the product of two wide classes, by orders");
+        classesToMultiply("byOrders");
         testEach("`r`: a set of descents: the one that is looked for", n -> {
             int all = lastSet(n);
             with(n).due(1, "byOrders", 0, 0, 0).due(n == 1 ? 1 : 0, "byOrders", 0, 0, all)
@@ -587,16 +597,7 @@ public final class BoundaryTest {
     private static void byTables() {
         in("Promise 19: byTables");
         plain("Counts the tables that tell a set, for the product of two wide classes");
-        testEach("`p`: a set of descents: the first wide class", n -> {
-            int all = lastSet(n);
-            with(n).due(1, "byTables", 0, all, all).due(MANY[n], "byTables", all, all, all)
-                .due(INVALID, "byTables", all + 1, 0, 0);
-        });
-        testEach("`q`: a set of descents: the second one", n -> {
-            int all = lastSet(n);
-            with(n).due(1, "byTables", all, 0, all).due(MANY[n], "byTables", all, all, all)
-                .due(INVALID, "byTables", 0, all + 1, 0);
-        });
+        classesToMultiply("byTables");
         testEach("the one that the tables tell; -1: all tables", n -> {
             int all = lastSet(n);
             with(n).due(1, "byTables", 0, 0, 0).due(n == 1 ? 1 : 0, "byTables", all, all, 0)

@@ -321,7 +321,7 @@ public final class TermsTest {
         x.due(LIMIT, "type", 'a').due(60, "count", 3).due(60, "clearText").due(1, "type", 'a');
     }
 
-    /** Whether a text of n letters has no fault, or where it has one. */
+    /** A text that is typed while orders have n letters. */
     private static void faultIs(int want, int n, String text) {
         Tried.with(n).types(text).due(want, "fault");
     }
