@@ -1,11 +1,15 @@
+import java.io.IOException;
 import java.lang.reflect.Constructor;
 import java.lang.reflect.Field;
 import java.lang.reflect.Method;
 import java.lang.reflect.Modifier;
 import java.nio.file.Files;
 import java.nio.file.Path;
+import java.util.ArrayList;
+import java.util.List;
 import java.util.Set;
 import java.util.TreeSet;
+import java.util.regex.Matcher;
 import java.util.regex.Pattern;
 
 /** The public face as the document tells it, and some of the rules of LANGUAGE.md that can be looked up. */
@@ -15,6 +19,11 @@ public final class FaceTest {
         "new()", "begin(1)", "add(3)", "addClass(4)", "clear(1)", "multiply(3)", "combine(5)", "turn(2)", "shuffle(4)",
         "orderOf(2)", "product(2)", "factor(2)", "termOf(3)", "sumOf(2)", "classOf(3)", "peakSum(2)", "square(1)",
         "byOrders(3)", "byTables(3)", "count(1)", "undo(0)", "type(1)", "clearText(0)", "fault(0)", "read(1)"};
+
+    /** The calls as the document tells them one behind the other, each group behind its head. */
+    private static final String GROUPS = "---- sums begin add addClass clear multiply combine turn shuffle"
+        + " ---- orders orderOf product ---- what sums are factor termOf sumOf classOf peakSum square"
+        + " ---- products of classes byOrders byTables count undo ---- texts type clearText fault read";
 
     private static final String[] FORBIDDEN = {
         "\\bthrow\\b", "\\btry\\b", "\\bcatch\\b", "\\bsynchronized\\b", "\\bassert\\b", "->", "::", "\\bimport\\b",
@@ -77,8 +86,18 @@ public final class FaceTest {
         }
     }
 
-    private static void checkSource() throws java.io.IOException {
+    private static void checkGroups(String source) {
+        List<String> told = new ArrayList<>();
+        Matcher each = Pattern.compile("(?m)^    // (---- .+)$|^    public int (\\w+)\\(").matcher(source);
+        while (each.find()) {
+            told.add(each.group(1) == null ? each.group(2) : each.group(1));
+        }
+        check(String.join(" ", told).equals(GROUPS), "the calls come as " + told);
+    }
+
+    private static void checkSource() throws IOException {
         String source = Files.readString(Path.of("src/main/java/DescentShuffles.java"));
+        checkGroups(source);
         String code = source.replaceAll("(?s)/\\*.*?\\*/", "").replaceAll("//[^\n]*", "");
         for (String forbidden : FORBIDDEN) {
             check(!Pattern.compile(forbidden).matcher(code).find(), "the program has " + forbidden);
